@@ -912,7 +912,7 @@ public final class FallClocks {
             if (best[b + 1][state] == most) {
                 return 0;
             }
-            int least = hall.allLots();
+            int least = rest;
             Buyer buyer = hall.buyers[b];
             for (int i = 0; i < buyer.alternatives; i++) {
                 if (buyer.isThere(i) && Counts.cover(counts[state], buyer.needs[i])
