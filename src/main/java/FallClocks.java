@@ -961,11 +961,12 @@ public final class FallClocks {
             for (int lot = 0; lot < hall.lots; lot++) {
                 price[lot] = 0;
             }
-            for (rounds = 0; rounds <= MOST_ROUNDS; rounds++) {
+            for (int n = 0; n <= MOST_ROUNDS; n++) {
+                rounds = n;
                 look();
                 missing = lack(mostWorth);
                 int wanted = wantedTwice();
-                if (missing == 0 || wanted == 0 || rounds == MOST_ROUNDS) {
+                if (missing == 0 || wanted == 0 || n == MOST_ROUNDS) {
                     return;
                 }
                 for (int lot = 0; lot < hall.lots; lot++) {

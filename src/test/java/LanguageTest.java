@@ -10,7 +10,9 @@ import java.util.ArrayList;
 import java.util.Arrays;
 import java.util.HashSet;
 import java.util.List;
+import java.util.Map;
 import java.util.Set;
+import java.util.TreeMap;
 import java.util.TreeSet;
 import java.util.regex.Matcher;
 import java.util.regex.Pattern;
@@ -28,6 +30,8 @@ public final class LanguageTest {
         "hashCode", "toString", "getClass", "System\\.(?!arraycopy)", "Math\\.(?!(max|min|abs|floorDiv|floorMod)\\b)",
         "Integer\\.(?!(bitCount|compare|max|min)\\b)", "double", "float", "long", "@"};
 
+    private static final Pattern HEAD = Pattern.compile("^ {4}( {4})?(\\w+ )*[\\w\\[\\]]+\\(.*\\) \\{$");
+
     private static int wrong;
 
     public static void main(String[] args) throws IOException {
@@ -42,6 +46,8 @@ public final class LanguageTest {
         checkFace();
         checkNested();
         checkLengths(code);
+        checkWhatCouldThrow(code);
+        checkDepth(code);
         System.out.println("LanguageTest: " + wrong + " wrong");
         if (wrong != 0) {
             System.exit(1);
@@ -117,16 +123,74 @@ public final class LanguageTest {
 
     private static void checkLengths(String code) {
         String[] lines = code.split("\n");
-        Pattern head = Pattern.compile("^ {4}( {4})?(\\w+ )*[\\w\\[\\]]+\\(.*\\) \\{$");
         for (int i = 0; i < lines.length; i++) {
-            if (head.matcher(lines[i]).matches() && !lines[i].trim().matches("(if|for|while|switch|else).*")) {
-                String end = lines[i].substring(0, lines[i].length() - lines[i].stripLeading().length()) + "}";
-                int k = i;
-                while (k < lines.length && !lines[k].equals(end)) {
-                    k++;
-                }
-                check(k - i < 60, "rule 11: " + (k - i) + " lines: " + lines[i].trim());
+            if (isHead(lines[i])) {
+                int length = endOf(lines, i) - i;
+                check(length < 60, "rule 11: " + length + " lines: " + lines[i].trim());
             }
         }
+    }
+
+    private static boolean isHead(String line) {
+        return HEAD.matcher(line).matches() && !line.trim().matches("(if|for|while|switch|else).*");
+    }
+
+    /** The row in which the method that begins at a row ends. */
+    private static int endOf(String[] lines, int head) {
+        String end = lines[head].substring(0, lines[head].length() - lines[head].stripLeading().length()) + "}";
+        int k = head;
+        while (k < lines.length && !lines[k].equals(end)) {
+            k++;
+        }
+        return k;
+    }
+
+    private static void checkWhatCouldThrow(String code) {
+        check(!Pattern.compile("/(?!\\s*=?\\s*[1-9])").matcher(code).find(), "rule 7: a divisor that is no number");
+        check(!code.contains("%"), "rule 7: a rest of a division");
+        check(!Pattern.compile("\\((int|short|byte|char|[A-Z]\\w*)(\\[\\])*\\)\\s*[\\w(]").matcher(code).find(),
+            "rule 6: a cast");
+        check(!Pattern.compile("\\bnull\\b").matcher(code).find(), "rule 7: a reference that may be null");
+    }
+
+    /** Methods are told apart by their names alone: two of one name count as one that does what both do. */
+    private static void checkDepth(String code) {
+        Map<String, Set<String>> called = new TreeMap<>();
+        String[] lines = code.split("\n");
+        for (int i = 0; i < lines.length; i++) {
+            if (isHead(lines[i])) {
+                Set<String> names = called.computeIfAbsent(nameOf(lines[i]), name -> new TreeSet<>());
+                for (int k = i + 1; k < endOf(lines, i); k++) {
+                    Matcher call = Pattern.compile("(\\w+)\\(").matcher(lines[k]);
+                    while (call.find()) {
+                        names.add(call.group(1));
+                    }
+                }
+            }
+        }
+        check(called.size() > FACE.split(" ").length, "rule 11: methods were not found");
+        for (String name : called.keySet()) {
+            goDown(name, called, new ArrayList<>());
+        }
+    }
+
+    private static String nameOf(String head) {
+        String name = head.substring(0, head.indexOf('('));
+        return name.substring(name.lastIndexOf(' ') + 1);
+    }
+
+    private static void goDown(String name, Map<String, Set<String>> called, List<String> above) {
+        check(!above.contains(name), "rule 8: calls itself: " + above + " " + name);
+        if (above.contains(name)) {
+            return;
+        }
+        above.add(name);
+        check(above.size() <= 8, "rule 11: calls too deep: " + above);
+        for (String below : called.get(name)) {
+            if (called.containsKey(below)) {
+                goDown(below, called, above);
+            }
+        }
+        above.remove(above.size() - 1);
     }
 }
